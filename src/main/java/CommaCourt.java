@@ -28,6 +28,7 @@ public final class CommaCourt {
     private final State snapshot = new State();
     private final State[] history = new State[MOST_STATES];
     private final Pad pad = new Pad();
+    // The pad is read into the draft ahead of its print; it is never stayed itself, nor sued.
     private final Edition draft = new Edition();
     private final Sheet sheet = new Sheet();
     private boolean saved;
@@ -985,12 +986,10 @@ public final class CommaCourt {
             return isWithin(next, '0', '9') ? 10 + next - '0' : signAt(place) - '0';
         }
 
-        /** Makes of an edition what the faultless pad says, new and not stayed. */
+        /** Gives an edition the words and commas that the faultless pad says. */
         void writeTo(Edition edition) {
             edition.words = 0;
             edition.commas = 0;
-            edition.until = 0;
-            edition.granted = 0;
             for (int place = 0; place < length; place++) {
                 int sign = signAt(place);
                 if (sign == ',') {
@@ -1078,7 +1077,6 @@ public final class CommaCourt {
         }
 
         int leastRankByWords() {
-            put(byWords, 0, 0);
             for (int end = 1; end <= words; end++) {
                 put(byWords, end, leastRankUpTo(end));
             }

@@ -10,6 +10,7 @@ public final class HistoryTest {
         save();
         restore();
         restoreIsAChange();
+        otherRulingsInBetween();
         check.end();
     }
 
@@ -83,10 +84,12 @@ public final class HistoryTest {
             check.due("undo of change " + number, court.undo(), 3);
             check.dueTrue("change " + number + " is undone", accountOf(court).equals(before));
         }
-        CommaCourt court = new CommaCourt();
-        court.weight(3, 9);
-        court.undo();
-        check.due("a weight is undone", court.weight(3, 1), 4);
+        for (int kind = 0; kind < 6; kind++) {
+            CommaCourt court = new CommaCourt();
+            court.weight(kind, 9);
+            court.undo();
+            check.due("a weight is undone", court.weight(kind, 8), kind + 1);
+        }
     }
 
     private static void undoForgetsOldest() {
@@ -209,5 +212,28 @@ public final class HistoryTest {
         court.restore();
         check.due("and is not changed by what comes", court.edition(0, 8), 0);
         check.due("weight", court.edition(0, 3), 3);
+    }
+
+    private static void otherRulingsInBetween() {
+        CommaCourt court = Check.courtWith("fb");
+        court.save();
+        court.rule(5, 1, true, 13, -1);
+        court.overrule(0);
+        court.restore();
+        check.due("no ruling is left", court.count(4), 0);
+        check.due("another 0", court.rule(1, 5, false, 2, -1), 0);
+        check.due("that is not overruled", court.ruling(0, 5), 1);
+        check.due("a 1 that cites it", court.rule(5, 1, true, 13, 0), 1);
+        court.save();
+        String saved = accountOf(court);
+        court.undo();
+        court.undo();
+        check.due("a third 0", court.rule(5, 5, true, 7, -1), 0);
+        check.due("a 1 that cites none", court.rule(3, 4, false, 8, -1), 1);
+        String then = accountOf(court);
+        court.restore();
+        check.dueTrue("the rulings that were", accountOf(court).equals(saved));
+        court.undo();
+        check.dueTrue("the rulings that came", accountOf(court).equals(then));
     }
 }
