@@ -497,6 +497,9 @@ public final class CommaCourt {
     }
 
     private void forgetOldest() {
+        if (history.length == 0) {
+            return;
+        }
         State oldest = history[0];
         for (int state = 1; state < history.length; state++) {
             history[state - 1] = history[state];
