@@ -20,13 +20,13 @@ public final class HistoryTest {
         for (int what = 0; what < 13; what++) {
             account.append(court.count(what)).append(' ');
         }
-        for (int edition = 0; edition < 4; edition++) {
+        for (int edition = 0; edition < court.count(1); edition++) {
             account.append(Check.textOf(court, edition));
             for (int what = 0; what < 10; what++) {
                 account.append(' ').append(court.edition(edition, what));
             }
         }
-        for (int ruling = 0; ruling < 10; ruling++) {
+        for (int ruling = 0; ruling < court.count(4); ruling++) {
             account.append('/');
             for (int what = 0; what < 9; what++) {
                 account.append(' ').append(court.ruling(ruling, what));
@@ -173,24 +173,31 @@ public final class HistoryTest {
     }
 
     private static void restore() {
-        CommaCourt court = busyCourt();
-        check.due("without a snapshot", court.restore(), Check.NOT_POSSIBLE);
-        court.save();
-        String saved = accountOf(court);
+        CommaCourt none = busyCourt();
+        check.due("without a snapshot", none.restore(), Check.NOT_POSSIBLE);
         for (int number = 0; number < 13; number++) {
-            change(court, number);
-            check.dueTrue("different behind change " + number, !accountOf(court).equals(saved));
-            court.append('a');
-            int pad = court.count(13);
-            check.due("restore()", court.restore(), 3);
-            check.dueTrue("restored behind change " + number, accountOf(court).equals(saved));
-            check.due("the pad stays", court.count(13), pad);
-            court.clear();
+            restoreBehind(number);
         }
+        CommaCourt court = busyCourt();
+        court.save();
+        check.due("restore()", court.restore(), 3);
         check.due("restore() again", court.restore(), 3);
         court.weight(4, 9);
         court.restore();
         check.due("a weight is restored", court.weight(4, 5), 5);
+    }
+
+    private static void restoreBehind(int number) {
+        CommaCourt court = busyCourt();
+        court.save();
+        String saved = accountOf(court);
+        change(court, number);
+        check.dueTrue("different behind change " + number, !accountOf(court).equals(saved));
+        court.append('a');
+        int pad = court.count(13);
+        check.due("restore()", court.restore(), 3);
+        check.dueTrue("restored behind change " + number, accountOf(court).equals(saved));
+        check.due("the pad stays", court.count(13), pad);
     }
 
     private static void restoreIsAChange() {
