@@ -52,6 +52,27 @@ public final class BoundariesOfTextsTest {
         new Twins(check, CommaCourt::new).dueNothingChanged("clear() of nothing", CommaCourt::clear);
     }
 
+    @Says("12: (what a longer pad had behind the end of a shorter one does not matter)")
+    private static void shorterBehindClear() {
+        CommaCourt court = Courts.withTwelveWords();
+        court.set(0, 1);
+        Check.type(court, "0:10;+");
+        Check.type(court, "0:1");
+        check.due("the gap 1, not 10", court.plead(), 1);
+        check.due("the comma", court.edition(0, 1), 2);
+        Check.type(court, "0:10");
+        court.plead();
+        Check.type(court, "0:1");
+        check.due("the gap 1 again", court.plead(), 0);
+        check.due("commas", court.edition(0, 1), 1026);
+        Check.type(court, "a,b,c,d,e,f,a,b,c,d,e,f");
+        Check.type(court, "fe,d");
+        check.due("print()", court.print(), 1);
+        check.dueText("a shorter edition", court, 1, "fe,d");
+        Check.type(court, "");
+        check.due("the fault of nothing", court.fault(0), 0);
+    }
+
     @Says("13: way: 0 if it is read as an edition, 1 if it is read as suits")
     private static void wayOfFault() {
         new Twins(check, Courts::busy).dueWithin("way", 0, 1, CommaCourt::fault);
